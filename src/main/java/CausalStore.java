@@ -102,7 +102,7 @@ public final class CausalStore {
             return BAD_CENTRE;
         }
         // What is visible in the end is the same in whatever order they come, so they come as one set.
-        comeTo[centre] = only(versions) - 1L;
+        comeTo[centre] = (1L << versions) - 1L;
         return showReady(centre);
     }
 

@@ -18,6 +18,10 @@ final class Due {
         due(call, got ? 1L : 0L, want ? 1L : 0L);
     }
 
+    static boolean hasWrong() {
+        return wrong != 0;
+    }
+
     static void end() {
         System.out.println(looked + " answers looked at, " + wrong + " not as due");
         System.exit(wrong == 0 ? 0 : 1);

@@ -7,7 +7,8 @@ public final class ModelTest {
     private static long state = 1;
 
     public static void main(String[] args) {
-        for (int run = 0; run < RUNS; run++) {
+        // After a run with a wrong answer the others would only say the same again.
+        for (int run = 0; run < RUNS && !Due.hasWrong(); run++) {
             CausalStore x = new CausalStore();
             Model m = new Model();
             // Runs differ in how often they write: some are full early, others never.

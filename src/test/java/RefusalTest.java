@@ -184,7 +184,7 @@ public final class RefusalTest {
 
     private static void questionsAboutTwoVersions() {
         Due.sentence("Terms", "The calls below change nothing");
-        int[] versions = {Integer.MIN_VALUE, -1, 0, 1, 39, 40, Integer.MAX_VALUE};
+        int[] versions = {Integer.MIN_VALUE, -1, 0, 1, 2, 3, 39, 40, Integer.MAX_VALUE};
         for (Stage stage : Stage.values()) {
             for (int a : versions) {
                 for (int b : versions) {
